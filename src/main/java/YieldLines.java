@@ -708,7 +708,7 @@ public final class YieldLines {
          * Whether the NODE YIELDS one more RESULT. Behind a cut none is asked, so that nothing goes
          * on and no ^ gives back.
          */
-        boolean ask(int node, int depth) {
+        private boolean ask(int node, int depth) {
             if (cut || depth > MOST_NODES || !isNode(node)) {
                 return false;
             }

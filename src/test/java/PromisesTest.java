@@ -53,8 +53,19 @@ public final class PromisesTest {
         return y;
     }
 
+    /** The same object reads a good text behind the bad one: nothing of the bad one may be left over. */
     private static void fault(String text, int place) {
-        Check.due("reads '" + text + "'", read(new YieldLines(), text), -10 - place);
+        YieldLines y = new YieldLines();
+        Check.due("reads '" + text + "'", read(y, text), -10 - place);
+        Check.due("reads on behind '" + text + "'", read(y, "7;(b:1)+2;*!c;"), 3);
+        Check.same("says behind '" + text + "'", allSaid(y), "7 3");
+        Check.due("nodes behind '" + text + "'", y.told(5), 7);
+        for (int what = 0; what < 4; what++) {
+            Check.due("line(0) behind '" + text + "'", y.line(0, what), what == 1 ? 1 : 0);
+            Check.due("line(1) behind '" + text + "'", y.line(1, what), new int[] {0, 4, 2, 2}[what]);
+            Check.due("line(2) behind '" + text + "'", y.line(2, what), new int[] {1, 2, 4, 0}[what]);
+        }
+        Check.due("another fault behind '" + text + "'", read(y, "1;(1)12;"), -15);
     }
 
     private static String allSaid(YieldLines y) {
@@ -246,6 +257,8 @@ public final class PromisesTest {
         fault("1,2;", 1);
         fault("1/2;", 1);
         fault("1;a b;", 4);
+        fault("a:b^c:d:1;*a:b^c:d:1;*a:b^c:d:1;12", 34);
+        fault("*1+2*!(3~(a:!(b^1|2&", 20);
         // A text that ends too early, at its greatest length.
         fault(times(" ", 149) + "1", 150);
         fault(times("(", 9) + "1" + times(" ", 140), 150);
