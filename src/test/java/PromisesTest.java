@@ -1,7 +1,5 @@
 /** Each promise of the document by its number: ordinary inputs, the edges it names, wrong inputs. */
-public final class PromisesTest {
-    private static final int NONE = -1999999, BAD = -2000000, NO = -2000001, FULL = -2000002;
-
+public final class PromisesTest extends Telling {
     private PromisesTest() {
     }
 
@@ -30,63 +28,6 @@ public final class PromisesTest {
         told();
         digest();
         Check.end();
-    }
-
-    // ---- helpers
-
-    private static void typed(YieldLines y, String text) {
-        y.clear();
-        for (int i = 0; i < text.length(); i++) {
-            y.type(text.charAt(i));
-        }
-    }
-
-    private static int read(YieldLines y, String text) {
-        typed(y, text);
-        return y.reads();
-    }
-
-    private static YieldLines of(String text) {
-        YieldLines y = new YieldLines();
-        int lines = read(y, text);
-        Check.same("reading '" + text + "' is no fault", lines >= 0, true);
-        return y;
-    }
-
-    /** The same object reads a good text behind the bad one: nothing of the bad one may be left over. */
-    private static void fault(String text, int place) {
-        YieldLines y = new YieldLines();
-        Check.due("reads '" + text + "'", read(y, text), -10 - place);
-        Check.due("reads on behind '" + text + "'", read(y, "7;(b:1)+2;*!c;"), 3);
-        Check.same("says behind '" + text + "'", allSaid(y), "7 3");
-        Check.due("nodes behind '" + text + "'", y.told(5), 7);
-        for (int what = 0; what < 4; what++) {
-            Check.due("line(0) behind '" + text + "'", y.line(0, what), what == 1 ? 1 : 0);
-            Check.due("line(1) behind '" + text + "'", y.line(1, what), new int[] {0, 4, 2, 2}[what]);
-            Check.due("line(2) behind '" + text + "'", y.line(2, what), new int[] {1, 2, 4, 0}[what]);
-        }
-        Check.due("another fault behind '" + text + "'", read(y, "1;(1)12;"), -15);
-    }
-
-    private static String allSaid(YieldLines y) {
-        StringBuilder all = new StringBuilder();
-        for (int i = 0; i < y.run(0); i++) {
-            all.append(i == 0 ? "" : " ").append(y.said(i));
-        }
-        return all.toString();
-    }
-
-    private static void says(String text, String want) {
-        Check.same("said by '" + text + "'", allSaid(of(text)), want);
-    }
-
-    private static void saysAndWorks(String text, String want, int work) {
-        says(text, want);
-        Check.due("work of '" + text + "'", of(text).run(3), work);
-    }
-
-    private static String times(String part, int n) {
-        return part.repeat(n);
     }
 
     // ---- the promises
