@@ -11,6 +11,7 @@ public final class EdgesOfCallsTest extends Telling {
         constants();
         newObject();
         mostCalls();
+        laterCalls();
         type();
         typeRefuses();
         clear();
@@ -89,6 +90,42 @@ public final class EdgesOfCallsTest extends Telling {
         Check.due("the 512th behind as many NO", back.told(1), 511);
         Check.due("the 512th behind as many bytes", full.told(2), 511 - 150);
         Check.due("the 512th behind as many values", states.value(0, 0), 511);
+    }
+
+    /** Their answers are free, but LANGUAGE.md has each call end without a throw, in any state. */
+    private static void laterCalls() {
+        Check.sentence("what later calls answer is free.");
+        int[] given = {Integer.MIN_VALUE, -1, 0, 1, 3, 4, 7, 8, 30, 59, 97, 999999, Integer.MAX_VALUE};
+        String text = "*(a:1~9)*(b^a|2);!d;";
+        YieldLines y = new YieldLines();
+        int ended = 0;
+        for (int n = 0; n < 20000; n++) {
+            if (n % 97 == 0) {
+                read(y, text);
+            }
+            anyCall(y, n % 14, given[n % 13], given[n / 13 % 13]);
+            ended++;
+        }
+        Check.due("calls that ended", ended, 20000);
+    }
+
+    private static long anyCall(YieldLines y, int which, int first, int second) {
+        return switch (which) {
+            case 0 -> y.type(first);
+            case 1 -> y.clear();
+            case 2 -> y.reads();
+            case 3 -> y.value(first, second);
+            case 4 -> y.drops(first);
+            case 5 -> y.line(first, second);
+            case 6 -> y.run(first);
+            case 7 -> y.said(first);
+            case 8 -> y.did(first, second);
+            case 9 -> y.ends(first);
+            case 10 -> y.alone(first, second);
+            case 11 -> y.back();
+            case 12 -> y.told(first);
+            default -> y.digest();
+        };
     }
 
     private static void type() {

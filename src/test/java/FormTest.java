@@ -23,13 +23,17 @@ public final class FormTest {
             "assert", "import", "package", "protected", "volatile", "native", "yield", "var", "equals", "hashCode",
             "toString", "Random", "Thread", "double", "float");
 
+    private static final List<String> LIBRARY = List.of("System.arraycopy", "Math.floorMod", "Math.max", "Math.min");
+
     private FormTest() {
     }
 
     public static void main(String[] args) throws IOException {
         face();
         methodsInside();
+        staticFields();
         words();
+        library();
         lengths();
         Check.end();
     }
@@ -73,9 +77,33 @@ public final class FormTest {
         });
     }
 
-    private static void words() throws IOException {
-        String code = Files.readString(SOURCE).replaceAll("(?s)/\\*.*?\\*/", "").replaceAll("//.*", "")
+    private static void staticFields() {
+        Stream.concat(Stream.of(YieldLines.class), Arrays.stream(YieldLines.class.getDeclaredClasses()))
+                .flatMap(c -> Arrays.stream(c.getDeclaredFields()))
+                .filter(f -> Modifier.isStatic(f.getModifiers()))
+                .forEach(f -> {
+                    Check.same(f + " is final", Modifier.isFinal(f.getModifiers()), true);
+                    Check.same(f + " is a number", f.getType(), int.class);
+                });
+    }
+
+    /** What is called by the name of a class is the library's few here, or a constant of the class's own. */
+    private static void library() throws IOException {
+        Matcher called = Pattern.compile("\\b([A-Z]\\w*[a-z]\\w*)\\.(\\w+)").matcher(codeAlone());
+        List<String> own = Arrays.stream(YieldLines.class.getDeclaredClasses()).map(Class::getSimpleName).toList();
+        while (called.find()) {
+            boolean isRight = own.contains(called.group(1)) || LIBRARY.contains(called.group());
+            Check.same(called.group() + " may be used", isRight, true);
+        }
+    }
+
+    private static String codeAlone() throws IOException {
+        return Files.readString(SOURCE).replaceAll("(?s)/\\*.*?\\*/", "").replaceAll("//.*", "")
                 .replaceAll("'(\\\\.|[^'])'", "0");
+    }
+
+    private static void words() throws IOException {
+        String code = codeAlone();
         for (String word : WORDS_RULED_OUT) {
             Matcher found = Pattern.compile("\\b" + word + "\\b").matcher(code);
             Check.same("the word " + word, found.find(), false);
